@@ -71,7 +71,7 @@ public final class YardCourt {
     images = new Yard[] {new Yard(), new Yard()};
     kept = new boolean[2];
     tape = new Tape();
-    reader = new Reader();
+    reader = new Reader(tape);
     asker = new Asker();
     tally = new Tally();
     bribery = new Bribery();
@@ -221,7 +221,7 @@ public final class YardCourt {
       tape.length = 0;
       return refuse(NO_ROOM);
     }
-    Law made = reader.read(tape);
+    Law made = reader.read();
     tape.length = 0;
     faultPlace = reader.place();
     if (made == null) {
@@ -314,7 +314,7 @@ public final class YardCourt {
   // Bribes.
 
   public long bribed(int zero, int one) {
-    consider();
+    bribery.learn(now, asker);
     if (!bribery.can(0, zero) || !bribery.can(1, one)) {
       return NONE;
     }
@@ -325,7 +325,7 @@ public final class YardCourt {
     if (!isSide(side) || !isEither(what)) {
       return NONE;
     }
-    consider();
+    bribery.learn(now, asker);
     if (!bribery.can(1 - side, other)) {
       return NONE;
     }
@@ -336,7 +336,7 @@ public final class YardCourt {
     if (!isSide(side) || !isEither(what)) {
       return NONE;
     }
-    consider();
+    bribery.learn(now, asker);
     return bribery.told(side, bribery.safest(side), what);
   }
 
@@ -344,7 +344,7 @@ public final class YardCourt {
     if (!isSide(side)) {
       return NONE;
     }
-    consider();
+    bribery.learn(now, asker);
     return bribery.left(side, bribery.safest(side));
   }
 
@@ -352,7 +352,7 @@ public final class YardCourt {
     if (what < 0 || what > 2) {
       return NONE;
     }
-    consider();
+    bribery.learn(now, asker);
     long upper = bribery.left(0, bribery.safest(0));
     if (upper != bribery.left(1, bribery.safest(1))) {
       return what == 2 ? 0 : NONE;
@@ -367,7 +367,7 @@ public final class YardCourt {
     if (!isSide(side) || millionths < 0 || millionths > MILLION || !isEither(what)) {
       return NONE;
     }
-    consider();
+    bribery.learn(now, asker);
     return bribery.told(side, bribery.cheapest(side, millionths), what);
   }
 
@@ -375,7 +375,7 @@ public final class YardCourt {
     if (!isSide(side) || (beasts & ~now.seats) != 0) {
       return refuse(BAD_NUMBER);
     }
-    consider();
+    bribery.learn(now, asker);
     if (!bribery.can(side, beasts)) {
       return refuse(CANNOT_BE);
     }
@@ -393,7 +393,7 @@ public final class YardCourt {
     if (m < 1 || m > now.beasts || !isEither(what)) {
       return NONE;
     }
-    consider();
+    bribery.learn(now, asker);
     bribery.steadiest(m);
     return what == 0 ? bribery.steadyBench : bribery.steadyWays;
   }
@@ -402,7 +402,7 @@ public final class YardCourt {
     if (m < 1 || m > now.beasts) {
       return NONE;
     }
-    consider();
+    bribery.learn(now, asker);
     bribery.steadiest(m);
     return bribery.steadySwing;
   }
@@ -555,12 +555,6 @@ public final class YardCourt {
     bribery.forget();
     lastRefusal = 0;
     return answer;
-  }
-
-  private void consider() {
-    if (!bribery.known) {
-      bribery.learn(now, asker);
-    }
   }
 
   private void tallyBench(int hour, int without) {
@@ -869,11 +863,11 @@ public final class YardCourt {
     private static final int DIGITS = 2;
     private static final int SIGN = 3;
 
+    private final Tape text;
     private final int[] heads;
     private final int[] testsFrom;
     private final int[] ends;
     private final int[] steps;
-    private Tape text;
     private int clauses;
     private int length;
     private int parts;
@@ -883,24 +877,28 @@ public final class YardCourt {
     private int number;
     private boolean good;
 
-    Reader() {
+    Reader(Tape text) {
+      this.text = text;
       heads = new int[Law.MOST_CLAUSES];
       testsFrom = new int[Law.MOST_CLAUSES];
       ends = new int[Law.MOST_CLAUSES];
       steps = new int[MOST_BYTES];
-      text = new Tape();
       good = true;
     }
 
     /** The law that the text is; null where it has a fault. */
-    Law read(Tape tape) {
-      text = tape;
+    Law read() {
       clauses = 0;
       length = 0;
       parts = 0;
       behind = 0;
       advance();
-      good = readClauses();
+      good = readClause();
+      for (int k = 0; k < MOST_BYTES && good && isSign(';'); k++) {
+        advance();
+        good = readClause();
+      }
+      good = good && token == AT_END;
       if (!good) {
         return null;
       }
@@ -958,7 +956,7 @@ public final class YardCourt {
         return false;
       }
       for (int i = 0; i < word.length(); i++) {
-        if (text.at(start + i) != word.charAt(i)) {
+        if (text.bytes[start + i] != word.charAt(i)) {
           return false;
         }
       }
@@ -972,18 +970,9 @@ public final class YardCourt {
       }
     }
 
-    private boolean readClauses() {
-      boolean fine = readClause();
-      while (fine && isSign(';') && clauses < Law.MOST_CLAUSES) {
-        advance();
-        fine = clauses < Law.MOST_CLAUSES && readClause();
-      }
-      return fine && token == AT_END;
-    }
-
     private boolean readClause() {
       int head = headRead();
-      if (head == NONE) {
+      if (head == NONE || clauses >= Law.MOST_CLAUSES) {
         return false;
       }
       advance();
@@ -1292,21 +1281,18 @@ public final class YardCourt {
       height--;
       long one = stack[height - 1];
       long other = stack[height];
-      long result = combined(kind, one, other);
+      long result;
+      switch (kind) {
+        case Law.ADD: result = one + other; break;
+        case Law.SUBTRACT: result = one - other; break;
+        case Law.MULTIPLY: result = one * other; break;
+        case Law.DIVIDE: result = other == 0 ? 0 : one / other; break;
+        case Law.LESS: result = one < other ? 1 : 0; break;
+        case Law.MORE: result = one > other ? 1 : 0; break;
+        default: result = one == other ? 1 : 0;
+      }
       stack[height - 1] = result;
       return result >= -BEYOND && result <= BEYOND;
-    }
-
-    private static long combined(int kind, long one, long other) {
-      switch (kind) {
-        case Law.ADD: return one + other;
-        case Law.SUBTRACT: return one - other;
-        case Law.MULTIPLY: return one * other;
-        case Law.DIVIDE: return other == 0 ? 0 : one / other;
-        case Law.LESS: return one < other ? 1 : 0;
-        case Law.MORE: return one > other ? 1 : 0;
-        default: return one == other ? 1 : 0;
-      }
     }
   }
 
@@ -1398,6 +1384,9 @@ public final class YardCourt {
     }
 
     void learn(Yard yard, Asker asker) {
+      if (known) {
+        return;
+      }
       known = true;
       surveyed = false;
       beasts = yard.beasts;
@@ -1571,6 +1560,9 @@ public final class YardCourt {
 
     /** Goes through all bribes of both for the beasts from this place of the bench on. */
     private void pairFrom(int place, int zero, int one) {
+      if (place >= seated) {
+        return;
+      }
       int beast = bench[place];
       boolean isLast = place + 1 >= seated;
       long wonAlready = isLast ? tallies[place].atLeast(quota) * 100 : 0;
