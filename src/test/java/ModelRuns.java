@@ -1128,8 +1128,8 @@ public final class ModelRuns {
       case 23: int millionths = any(List.of(near(0, 1_000_000), near(0, 100) * 10_000, 500_000));
         call("enough", near(0, 1), millionths, near(0, 1)); break;
       case 24: call("bribe", near(0, 1), someBits(model.s.bench)); break;
-      case 25: if (model.s.beasts.size() < 7) call("steady", near(1, model.s.beasts.size()), near(0, 1)); break;
-      case 26: if (model.s.beasts.size() < 7) call("swing", near(1, model.s.beasts.size())); break;
+      case 25: if (model.s.beasts.size() < 7 || random.nextInt(4) == 0) call("steady", near(1, model.s.beasts.size()), near(0, 1)); break;
+      case 26: if (model.s.beasts.size() < 7 || random.nextInt(4) == 0) call("swing", near(1, model.s.beasts.size())); break;
       case 27: call("fairest"); break;
       case 28: case 44: int beasts = near(0, 255);
         call("judged", near(0, 1), beasts, someBits(beasts)); break;

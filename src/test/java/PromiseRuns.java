@@ -45,7 +45,7 @@ public final class PromiseRuns {
 
   private static YardCourt with(int beasts, int bench, String law) {
     YardCourt x = new YardCourt();
-    for (int b = 0; b < beasts; b++) x.beast(b, 10 * b, b, b, 9 - b);
+    for (int b = 0; b < beasts; b++) x.beast((b + 3) % 10, 10 * b, b, (b + 4) % 10, 9 - b);
     x.bench(bench);
     if (!law.isEmpty() && enact(x, law) < 0) {
       wrong++;
@@ -148,6 +148,15 @@ public final class PromiseRuns {
     due(50, x.hunger(0, 0));
     due(1, x.meal(0, 0));
 
+    x = with(1, 1, "votes hunger;price hunger");
+    x.put(0, 1, 40);
+    x.terms(3, 30);
+    x.meal(0, 0);
+    due(0, x.bribed(1, 0));
+    x.fast();
+    due(40, x.bribed(0, 0));
+    due(NONE, x.bribed(1, 0));
+
     promise = 7;
     x = new YardCourt();
     x.beast(0, 50, 4, 0, 0);
@@ -243,6 +252,11 @@ public final class PromiseRuns {
     due(3, x.row());
     due(0, x.count(5));
     due(3, x.count(3));
+    due(1, x.right(0, 0));
+    due(1, x.right(0, 1));
+    due(2, x.right(2, 1));
+    due(0, x.right(3, 0));
+    due(1, x.right(7, 1));
     due(-6, x.row());
     write(x, "\u0000");
     due(0, x.row());
@@ -294,6 +308,11 @@ public final class PromiseRuns {
     due(NONE, faultOf("  votes1;lies [ 2 ] if not(rain=1)  "));
     due(0, faultOf("vote 1"));
     due(1, faultOf(" votesx 1"));
+    due(0, faultOf("votesz 1"));
+    due(0, faultOf("votesa 1"));
+    due(NONE, faultOf("votes 190"));
+    due(8, faultOf("votes 19:"));
+    due(9, faultOf("votes 19/"));
     due(0, faultOf("Votes 1"));
     due(6, faultOf("votes - 1"));
     due(8, faultOf("votes 1 1"));
@@ -387,7 +406,7 @@ public final class PromiseRuns {
     due(0, x.chance(2, 4, 0));
     due(6, x.chance(2, 7, 0));
     due(20, x.chance(2, 20, 0));
-    due(22, x.chance(2, 21, 0));
+    due(56, x.chance(2, 21, 0));
     due(7, x.chance(2, 22, 0));
     due(50, x.chance(2, 23, 0));
     x = with(1, 1, "votes 30+rain");
@@ -429,6 +448,8 @@ public final class PromiseRuns {
     isSo(false, "2<2");
     isSo(false, "1>2");
     isSo(true, "2>1");
+    isSo(false, "2>2");
+    isSo(true, "beast=2 and kind=5 and salt=6 and mild=7 and hunger=20 and favour=0 and hour=0 and rain=0 and minute=0");
     isSo(true, "side=1");
     isSo(false, "1=2");
     isSo(true, "not 1=2");
@@ -439,6 +460,14 @@ public final class PromiseRuns {
     isSo(false, "not (1=2 or 1=1)");
     isSo(true, "not 1=2 or 1=1");
     isSo(true, "not 1=2 and 1=1");
+    isSo(false, "not 1<2");
+    isSo(false, "not 2>1");
+    isSo(false, "not 7=7");
+    isSo(true, "7=7 or 1/0=1");
+    isSo(false, "7=7 and 1/0=1");
+    isSo(true, "5<7 or 1/0=1");
+    isSo(true, "7>5 or 1/0=1");
+    isSo(false, "7=8 or 8=7");
     isSo(true, "1=1 or 1/0=1");
     isSo(false, "1/0=1 or 1=1");
     isSo(false, "1=2 or 1/0=1");
@@ -472,6 +501,10 @@ public final class PromiseRuns {
     x.terms(1, 5);
     x.put(0, 5, 2);
     due(17, x.odds(NONE));
+    due(10, with(1, 1, "votes minute*50+10").odds(NONE));
+    due(10, with(1, 1, "votes minute*50+10").bribed(0, 0));
+    due(10, with(1, 1, "votes [side+1]*50+10").bribed(0, 0));
+    due(13, with(1, 1, "price minute*50+13").price(0, 0));
     x.bench(0);
     due(0, x.odds(NONE));
     due(1, x.odds(0));
@@ -538,6 +571,15 @@ public final class PromiseRuns {
     x = with(2, 3, "votes 30;price 0");
     due(0, x.reply(0, 0, 0));
     due(0, x.reply(0, 0, 1));
+    x = with(2, 3, "votes 30+favour*10;price 9-beast");
+    x.terms(3, 9);
+    x.terms(4, 9);
+    due(2, x.reply(0, 0, 0));
+    due(8, x.reply(0, 0, 1));
+    x.terms(3, 17);
+    due(3, x.reply(0, 0, 0));
+    due(17, x.reply(0, 0, 1));
+    due(0, x.reply(1, 0, 0));
 
     promise = 23;
     x = with(3, 7, SWAY);
@@ -552,6 +594,22 @@ public final class PromiseRuns {
     due(NONE, x.sure(-1, 0));
     due(NONE, x.sure(0, 2));
     due(NONE, x.sure(0, -1));
+    YardCourt y = with(2, 3, "votes 30;votes 40 if favour=1;votes 35 if favour=3;price 9-beast");
+    y.terms(3, 9);
+    due(2, y.sure(0, 0));
+    due(8, y.sure(0, 1));
+    y.terms(3, 17);
+    due(3, y.sure(0, 0));
+    due(0, y.sure(1, 0));
+    y.terms(4, 8);
+    due(2, y.sure(1, 0));
+    due(8, y.sure(1, 1));
+    y = with(2, 3, "votes 30;price 9-beast");
+    y.terms(3, 9);
+    due(0, y.sure(0, 0));
+    y = with(2, 3, "votes 30+favour;price 3");
+    y.terms(3, 3);
+    due(1, y.sure(0, 0));
 
     promise = 24;
     due(350000, x.value(0));
@@ -582,6 +640,8 @@ public final class PromiseRuns {
     due(2, x.saddle(2));
     due(1, x.saddle(0));
     due(3, x.saddle(1));
+    due(NONE, x.saddle(3));
+    due(NONE, x.saddle(-1));
     x = with(3, 7, "votes 40;price 0");
     due(64, x.saddle(2));
     due(0, x.saddle(0));
@@ -589,6 +649,10 @@ public final class PromiseRuns {
     x = new YardCourt();
     due(1, x.saddle(2));
     due(0, x.saddle(0));
+    due(0, x.saddle(1));
+    due(0, x.value(0));
+    due(0, x.value(1));
+    due(0, x.sure(1, 0));
   }
 
   private static void enoughAndBribe() {
@@ -596,6 +660,7 @@ public final class PromiseRuns {
     YardCourt x = with(3, 3, SWAY);
     x.terms(3, 15);
     x.terms(4, 5);
+    due(0, x.enough(0, 0, 0));
     due(0, x.enough(0, 750000, 0));
     due(1, x.enough(0, 750001, 0));
     due(5, x.enough(0, 900000, 1));
@@ -663,6 +728,7 @@ public final class PromiseRuns {
     due(7, x.steady(3, 0));
     due(1, x.steady(3, 1));
     due(NONE, x.steady(0, 0));
+    due(NONE, x.steady(0, 1));
     due(NONE, x.steady(4, 0));
     due(NONE, x.steady(9, 0));
     due(NONE, x.steady(1, 2));
@@ -683,11 +749,22 @@ public final class PromiseRuns {
     x.terms(0, 7);
     x.bench(0);
     due(3000, x.swing(2));
+    x.terms(3, 0);
+    x.terms(4, 0);
+    due(0, x.swing(2));
+    due(0, x.swing(1));
+    due(1, x.steady(1, 0));
+    due(3, x.steady(1, 1));
+    x.terms(4, 999);
+    due(50 - 20, x.swing(1));
+    due(50 * 50 - 20 * 20, x.swing(2));
 
     promise = 30;
     due(0, x.fairest());
     x = with(1, 1, "votes hour*7");
     due(7, x.fairest());
+    due(23, with(1, 1, "votes hour*2").fairest());
+    due(23, with(1, 1, "votes hour*2+minute*40").fairest());
     x = with(2, 3, "votes 30;votes 71 if hour=9;votes 29 if hour=3");
     due(3, x.fairest());
     x.terms(0, 2);
@@ -745,6 +822,13 @@ public final class PromiseRuns {
     due(1, x.right(2, 0));
     due(0, x.annul(0));
     due(-2, x.annul(0));
+    x.judged(0, 1, 1);
+    x.judged(1, 2, 0);
+    x.judged(0, 4, 0);
+    x.annul(0);
+    due(1, x.right(1, 0));
+    due(0, x.right(1, 1));
+    due(1, x.right(2, 1));
 
     promise = 33;
     x = new YardCourt();
@@ -761,6 +845,15 @@ public final class PromiseRuns {
     due(0, x.right(6, 0));
     due(0, x.right(6, 1));
     due(2, x.right(NONE, 0));
+    x.annul(0);
+    due(2, x.right(NONE, 0));
+    x.annul(0);
+    due(1, x.right(NONE, 0));
+    x = new YardCourt();
+    x.judged(0, 3, 1);
+    x.judged(1, 7, 1);
+    x.judged(1, 131, 128);
+    x.judged(0, 0, 0);
     due(NONE, x.right(NONE, 1));
     due(NONE, x.right(8, 0));
     due(NONE, x.right(-2, 0));
@@ -773,6 +866,13 @@ public final class PromiseRuns {
     due(1, x.agree(1, 7, 0));
     due(0, x.agree(7, 1, 1));
     due(1, x.agree(2, 1, 1));
+    due(3, x.agree(1, 0, 0));
+    due(1, x.agree(1, 0, 1));
+    x.judged(0, 24, 16);
+    x.judged(0, 24, 8);
+    x.judged(0, 24, 24);
+    due(3, x.agree(3, 4, 0));
+    due(1, x.agree(3, 4, 1));
     due(0, x.agree(2, 7, 0));
     due(NONE, x.agree(8, 0, 0));
     due(NONE, x.agree(0, 8, 0));
@@ -893,8 +993,13 @@ public final class PromiseRuns {
     x.terms(0, 3);
     due(1, x.sitting(0));
     due(0, x.lay(NONE, 0));
-    x = with(2, 3, "lies 0");
+    x = with(2, 3, "lies 0;lies 100 if minute>59");
     due(2, x.sitting(0));
+    due(59, x.lay(NONE, 0));
+    due(NONE, x.lay(0, 0));
+    x = with(2, 3, "lies 100;votes 100;price 0");
+    due(0, x.sitting(0));
+    due(0, x.lay(NONE, 0));
     x = with(2, 3, "lies 100 if minute=7;lies 0 if minute<7;votes 100 if minute=7;votes 0 if not minute=7");
     due(0, x.sitting(3));
     // By SEED 0 s becomes 12345, then 628841: the draws are 45 and 41.
@@ -989,7 +1094,7 @@ public final class PromiseRuns {
     due(0, x.count(11));
     due(1, x.count(12));
     due(70, x.count(15));
-    due(0, x.of(0, 0));
+    due(3, x.of(0, 0));
     due(2, x.of(0, 5));
     due(0, x.hunger(0, 3));
     due(1, x.right(1, 0));
@@ -1013,6 +1118,20 @@ public final class PromiseRuns {
     due(10, x.chance(0, 0, 0));
     due(-2, x.force(1));
     due(2, x.count(0));
+    x = new YardCourt();
+    x.beast(0, 0, 0, 0, 0);
+    x.image(0);
+    enact(x, "votes 11");
+    x.image(1);
+    x.back(0);
+    due(50, x.chance(0, 0, 0));
+    enact(x, "votes 12");
+    due(12, x.chance(0, 0, 0));
+    x.image(0);
+    x.back(1);
+    due(11, x.chance(0, 0, 0));
+    x.back(0);
+    due(12, x.chance(0, 0, 0));
   }
 
   private static void counts() {
