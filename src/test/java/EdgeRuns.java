@@ -2,6 +2,8 @@ import java.io.IOException;
 import java.math.BigInteger;
 import java.nio.file.Files;
 import java.nio.file.Path;
+import java.util.ArrayList;
+import java.util.List;
 import java.util.Set;
 import java.util.TreeSet;
 
@@ -305,8 +307,10 @@ public final class EdgeRuns {
     due(6, x.hunger(0, 4));
     due(3, x.hunger(0, 1));
     x.put(0, 2, 9);
-    due(99, x.hunger(0, 16));
     due(90, x.hunger(0, 15));
+    due(99, x.hunger(0, 16));
+    due(99, x.hunger(0, 17));
+    due(99, x.hunger(0, 22));
     x.put(0, 2, 0);
     due(0, x.hunger(0, 22));
     x.fast();
@@ -375,6 +379,17 @@ public final class EdgeRuns {
 
   // Terms II: how texts are read.
 
+  /** A word with each letter another, without its first, without its last, with one more. */
+  private static List<String> misspelt(String word) {
+    List<String> all = new ArrayList<>(List.of(word.substring(1), word.substring(0, word.length() - 1), word + "s", "a" + word));
+    for (int i = 0; i < word.length(); i++) {
+      StringBuilder other = new StringBuilder(word);
+      other.setCharAt(i, word.charAt(i) == 'z' ? 'a' : (char) (word.charAt(i) + 1));
+      all.add(other.toString());
+    }
+    return all;
+  }
+
   private static void tokens() {
     sentence("LAWS are TEXTS, 6 at most, on a TAPE of at most 400 bytes");
     YardCourt x = new YardCourt();
@@ -436,6 +451,18 @@ public final class EdgeRuns {
     due(NONE, faultOf("votes side"));
     due(6, faultOf("votes az"));
     due(NONE, faultOf("votes 09"));
+    for (String head : new String[] {"votes", "lies", "price"}) {
+      due(NONE, faultOf(head + " 1"));
+      for (String other : misspelt(head)) due(0, faultOf(other + " 1"));
+    }
+    for (String word : "beast kind hunger salt mild favour hour rain side minute".split(" ")) {
+      due(NONE, faultOf("votes " + word));
+      for (String other : misspelt(word)) due(6, faultOf("votes " + other));
+    }
+    for (String other : misspelt("if")) due(8, faultOf("votes 1 " + other + " 1=1"));
+    for (String other : misspelt("not")) due(11, faultOf("votes 1 if " + other + " 1=1"));
+    for (String other : misspelt("or")) due(15, faultOf("votes 1 if 1=1 " + other + " 1=1"));
+    for (String other : misspelt("and")) due(15, faultOf("votes 1 if 1=1 " + other + " 1=1"));
   }
 
   private static String clauses(int many) {
@@ -559,6 +586,16 @@ public final class EdgeRuns {
     YardCourt x = court(1, 1, "lies 0;lies 100 if side=0-1 and minute=7;votes 0;votes 100 if side=0-1 and minute=7");
     due(0, x.sitting(1));
     due(7, x.lay(0, 1));
+    x = court(1, 1, "lies 0;lies 100 if minute=9;votes 100-minute;price 500+minute");
+    x.sitting(1);
+    due(9, x.lay(0, 1));
+    due(500, x.price(0, 1));
+    due(100, x.chance(0, 0, 0));
+    due(500, court(1, 1, "price 500+side;lies 0;lies 100 if side=0-1").price(0, 0));
+    x = court(1, 1, "lies 0;lies 100 if side=0-1;votes 0;votes 100 if side=0-1");
+    x.price(0, 1);
+    due(0, x.sitting(1));
+    due(0, x.lay(0, 1));
     sentence("Beyond 1,000,000,000 either way, or divided by 0, a SUM, a TEST is BROKEN; / is cut towards 0.");
     due(999, sumOf("1000*1000*1000"));
     due(BROKEN, sumOf("1000*1000*1000+1"));
@@ -594,6 +631,75 @@ public final class EdgeRuns {
       due(sign.equals("=") ? SO : NOT_SO, testOf("5" + sign + "5"));
       due(sign.equals(">") ? SO : NOT_SO, testOf("6" + sign + "5"));
     }
+  }
+
+  private static void askedWith() {
+    sentence("It is asked of a BEAST in an HOUR (hunger as it is then) with FAVOURS (favour 0 .. 3)");
+    YardCourt x = new YardCourt();
+    x.beast(0, 0, 2, 0, 0);
+    x.beast(0, 0, 1, 0, 0);
+    x.bench(3);
+    enact(x, "votes hunger+favour*10;price hunger+favour*10");
+    purses(x, 999, 999);
+    x.terms(1, 23);
+    x.put(1, 5, 1);
+    due(46, x.chance(0, 23, 0));
+    due(33, x.chance(1, 23, 1));
+    due(30 + 5, x.chance(1, 5, 3));
+    due(46, x.price(0, 0));
+    due(33, x.price(1, 1));
+    due(46 * 33, x.odds(2));
+    due(67, x.tips(0));
+    due(54, x.tips(1));
+    due(10000 - 54 * 67, x.bribed(0, 0));
+    due(10000 - 44 * 67, x.bribed(1, 0));
+    due(10000 - 34 * 47, x.bribed(0, 3));
+    due((10000 - 54 * 67) * 100, x.appeal(1));
+    due(33 + 46, x.bribe(1, 3));
+    due(10000 - 34 * 47, x.odds(NONE));
+    x.meal(0, 20);
+    due(10000 - (100 - 20 - 6) * 47, x.odds(NONE));
+    enact(x, "lies 0;lies 100 if hour=23 and hunger=23 and favour=3;votes 0;votes 100 if hour=23 and hunger=23 and favour=3");
+    due(0, x.sitting(5));
+    due(NONE, x.lay(0, 0));
+    due(0, x.lay(1, 0));
+    due(0, x.lay(1, 1));
+    x.terms(1, 22);
+    due(2, x.sitting(5));
+    x = court(2, 0, "votes 50;votes 90 if hour=23 and favour=1;price 5+hour");
+    purses(x, 28, 0);
+    x.terms(1, 23);
+    due(40, x.swing(1));
+    x.terms(3, 27);
+    due(0, x.swing(1));
+    x.terms(3, 28);
+    x.terms(1, 22);
+    due(0, x.swing(1));
+    sentence("side: whose \"price\"");
+    x = purses(court(2, 3, "votes 50;votes 60 if favour=1;votes 40 if favour=2;price 30;price 7 if side=0"), 7, 30);
+    due(1, x.reply(0, 0, 0));
+    due(7, x.reply(0, 0, 1));
+    due(7, x.reply(0, 1, 1));
+    due(1, x.reply(1, 0, 0));
+    due(30, x.reply(1, 0, 1));
+    due(1, x.sure(0, 0));
+    due(7, x.sure(0, 1));
+    due(30, x.sure(1, 1));
+    due(1, x.enough(0, 800_000, 0));
+    due(7, x.enough(0, 800_000, 1));
+    due(1, x.enough(1, 300_000, 0));
+    due(30, x.enough(1, 300_000, 1));
+    x.terms(4, 29);
+    due(0, x.reply(1, 1, 0));
+    due(0, x.reply(1, 1, 1));
+    due(NONE, x.reply(0, 1, 0));
+    due(NONE, x.reply(0, 1, 1));
+    due(0, x.sure(1, 1));
+    due(NONE, x.enough(1, 300_000, 1));
+    due(7, x.bribe(0, 1));
+    due(-3, x.bribe(1, 1));
+    x.terms(4, 30);
+    due(30, x.bribe(1, 2));
   }
 
   private static void tests() {
@@ -753,6 +859,12 @@ public final class EdgeRuns {
     x = purses(court(2, 3, "votes 30;price 0"), 999, 999);
     due(0, x.sure(0, 0));
     due(0, x.sure(1, 0));
+    x = purses(court(1, 1, "votes 30;votes 31 if favour=1;votes 29 if favour=2;price 1"), 1, 0);
+    due(1, x.sure(0, 0));
+    due(1, x.reply(0, 0, 0));
+    x = purses(x, 0, 1);
+    due(1, x.sure(1, 0));
+    due(1, x.reply(1, 0, 0));
     // Bribed by both a beast is worse for SIDE 0 than by none: it had better not begin.
     x = purses(court(1, 1, "votes 50;votes 90 if favour=1;votes 10 if favour=3;price 1"), 1, 1);
     due(0, x.sure(0, 0));
@@ -1421,6 +1533,18 @@ public final class EdgeRuns {
     due(hundreds(8), court(8, 255, "votes 100").value(0));
     due(hundreds(8), court(8, 255, "votes 100").value(1));
 
+    // What was told ahead of a change is told anew behind it, be it more or less.
+    YardCourt y = purses(court(3, 7, "votes 90-favour;price 0"), 999, 999);
+    enact(y, "votes 10-favour;price 0");
+    for (int law : new int[] {0, 1, 0}) {
+      y.force(law);
+      long lost = law == 0 ? 12 : 92;
+      due(1000000 - lost * lost * lost, y.value(0));
+      due(1000000 - lost * lost * lost, y.value(1));
+      due(1, y.saddle(2));
+      due(7, y.saddle(1));
+    }
+
     promise(25, "how many SADDLES there are (2; 0). NONE (none, for 0, 1).");
     noneOf(new int[] {-1, 3, MIN, MAX}, v -> c -> c.saddle(v));
     due(0, x.saddle(2));
@@ -1492,6 +1616,13 @@ public final class EdgeRuns {
     x = purses(court(1, 1, "price 0"), 0, 0);
     due(0, x.bribe(0, 1));
     due(1, x.of(0, 5));
+  }
+
+  /** Twenty cases that the first and the last judged, alike in every other. */
+  private static YardCourt manyCases() {
+    YardCourt x = new YardCourt();
+    for (int k = 0; k < 20; k++) x.judged(0, 129, k % 2 == 0 ? 129 : 128);
+    return x;
   }
 
   private static void promises28to34() {
@@ -1574,7 +1705,12 @@ public final class EdgeRuns {
       due(votes == 0 || votes == 3 ? 1 : 0, x.agree(7, 0, 1));
       due(0, x.agree(0, 6, 0));
       due(0, x.agree(6, 5, 1));
+      x.annul(0);
+      due(0, x.agree(0, 7, 0));
+      due(0, x.agree(0, 7, 1));
     }
+    due(20, manyCases().agree(0, 7, 0));
+    due(10, manyCases().agree(0, 7, 1));
   }
 
   private static void promises35to40() {
@@ -1789,6 +1925,7 @@ public final class EdgeRuns {
     limits();
     faults();
     sums();
+    askedWith();
     tests();
     oddsTold();
     bribesTold();
